@@ -172,8 +172,7 @@ public final class KiteWords {
         }
         record();
         now.inNorth = inNorth;
-        reading.look(now);
-        return reading.size;
+        return readableKites();
     }
 
     public int setTangle(int minutes) {

@@ -147,7 +147,8 @@ public final class FliersTest {
         due.is("shown", kites.flier(2, 3), 20);
         due.is("place 3", kites.flier(3, 0), Due.UNKNOWN);
         due.is("all trades", kites.count(9), 1);
-        due.is("go(2), the last", kites.go(2), 2);
+        kites.trade(1);
+        due.is("go(2), the last, who has traded", kites.go(2), 2);
         kites.come('e', 1);
         due.is("number of e", kites.flier(2, 0), 4);
         due.is("trades of e", kites.flier(2, 7), 0);
@@ -163,7 +164,9 @@ public final class FliersTest {
         due.is("b with", kites.flier(0, 4), 1);
         due.is("c with", kites.flier(1, 4), 0);
         due.is("d with", kites.flier(2, 4), Due.NONE);
+        due.is("minutes of b", kites.flier(0, 5), 3);
         due.is("minutes of c", kites.flier(1, 5), 3);
+        due.is("minutes of d", kites.flier(2, 5), 0);
         due.is("d goes", kites.go(2), 2);
         due.is("still one tangle", kites.count(10), 1);
 

@@ -7,6 +7,7 @@ public final class HistoryTest {
         clearText();
         undo();
         undoOfEachAct();
+        undoOfTangles();
         keepAndRestore();
         errorsRecordNothing();
         count();
@@ -69,6 +70,7 @@ public final class HistoryTest {
         kites.trade(1);
         kites.undo();
         due.holds("trade", Due.row(kites).equals("abc"));
+        due.is("trade, numbers", kites.flier(1, 0), 1);
         due.is("trade, minutes", kites.count(1), 0);
         due.is("trade, trades", kites.count(9) + kites.flier(1, 7) + kites.flier(2, 7), 0);
         kites.wind(1, 5);
@@ -104,6 +106,33 @@ public final class HistoryTest {
         due.is("want, none", kites.count(6), 0);
         due.is("readRow is left", kites.undo(), 0);
         due.is("readRow", kites.count(0), 0);
+    }
+
+    private static void undoOfTangles() {
+        KiteWords kites = Due.withRow("a9,b1,c2,d9");
+        kites.wind(1, 5);
+        kites.pass(4);
+        // a at 45, b at 15, c at 30, d at 75
+        kites.setTangle(1);
+        due.is("by a trade", kites.trade(2), 1);
+        due.is("b with d", kites.flier(1, 4), Due.NONE);
+        due.is("by the wind", kites.wind(0, 0), 2);
+        int[][] told = {{5, 3, 2, 0}, {5, 0, 1, 0}, {4, 3, 2, 1}, {0, 0, 1, 0}};
+        log(kites, told, 0);
+        kites.undo();
+        log(kites, told, 2);
+        kites.undo();
+        log(kites, told, 3);
+    }
+
+    private static void log(KiteWords kites, int[][] told, int first) {
+        for (int back = 0; back < told.length - first; back++) {
+            for (int what = 0; what < 4; what++) {
+                due.is("from " + first + ", tangle(" + back + ", " + what + ")",
+                        kites.tangle(back, what), told[first + back][what]);
+            }
+        }
+        due.is("no more from " + first, kites.tangle(told.length - first, 0), Due.NONE);
     }
 
     private static void keepAndRestore() {
