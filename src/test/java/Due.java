@@ -63,9 +63,26 @@ final class Due {
         return kites.want();
     }
 
+    /** A row of so many fliers: a, b, c and on, each with a line of the length 1. */
+    static String fliers(int count) {
+        StringBuilder fliers = new StringBuilder();
+        for (int i = 0; i < count; i++) {
+            fliers.append(i > 0 ? "," : "").append((char) ('a' + i)).append('1');
+        }
+        return fliers.toString();
+    }
+
+    /** Makes so many fliers come and go again; the row stays as long as it is. */
+    static void comeAndGo(KiteWords kites, int times) {
+        for (int i = 0; i < times; i++) {
+            kites.go(kites.come('x', 1));
+        }
+    }
+
+    /** The fewest calls that it takes: the document promises 512 for an object. */
     static void passTo(KiteWords kites, int minute) {
-        while (kites.count(1) < minute) {
-            kites.pass(Math.min(60, minute - kites.count(1)));
+        for (int left = minute - kites.count(1); left > 0; left -= 60) {
+            kites.pass(Math.min(60, left));
         }
     }
 
