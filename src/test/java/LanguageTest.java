@@ -23,11 +23,22 @@ public final class LanguageTest {
         "nextTrade()", "spelledIn()", "turnOf(int,int)", "tangle(int,int)", "count(int)",
     };
 
+    // "Ahead of the calls ... the interface says: ----": the groups of the face, each with its calls.
+    private static final String[] GROUPS = {
+        "fliers: come readRow go pay trade",
+        "time, wind, settings: pass wind planTurn dropTurn crowd setTangle",
+        "the word: want",
+        "texts: type clearText",
+        "history: undo keep restore",
+        "what is told: flier reads ifTraded nextTrade spelledIn turnOf tangle count",
+    };
+
     public static void main(String[] args) throws IOException, IllegalAccessException {
         constants();
         methods();
         classesInside();
         String source = Files.readString(Path.of("src/main/java/KiteWords.java"));
+        groups(source);
         words(source);
         methodLengths(source);
         due.close();
@@ -94,6 +105,19 @@ public final class LanguageTest {
             due.holds(method + " bears a name of its own",
                     isFace || Arrays.stream(FACE).noneMatch(face -> face.startsWith(method.getName() + "(")));
         }
+    }
+
+    private static void groups(String source) {
+        List<String> groups = new ArrayList<>();
+        Matcher lines = Pattern.compile("(?m)^    // ---- (.*)$|^    public int (\\w+)\\(").matcher(source);
+        while (lines.find()) {
+            if (lines.group(1) != null) {
+                groups.add(lines.group(1) + ":");
+            } else if (!groups.isEmpty()) {
+                groups.set(groups.size() - 1, groups.get(groups.size() - 1) + " " + lines.group(2));
+            }
+        }
+        due.holds("the groups are " + groups, groups.equals(Arrays.asList(GROUPS)));
     }
 
     private static void words(String source) {
