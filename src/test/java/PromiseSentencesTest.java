@@ -82,8 +82,13 @@ public final class PromiseSentencesTest {
         kites.come('c', 3);
         due.holds("the row", Due.row(kites).equals("abc"));
         due.is("its line", kites.flier(2, 2), 3);
-        due.is("its trades", kites.flier(2, 7), 0);
+        kites.trade(1);
+        kites.go(2);
+        kites.come('b', 2);
+        due.is("who comes again has another number", kites.flier(2, 0), 3);
+        due.is("and no trades", kites.flier(2, 7), 0);
         due.is("it is not tangled", kites.flier(2, 4), Due.NONE);
+        due.is("for no minutes", kites.flier(2, 5), 0);
         isAct("come('f', 1)", one -> one.come('f', 1));
         document.says("letter: a to z");
         for (char letter = 'a'; letter <= 'z'; letter++) {
@@ -178,6 +183,13 @@ public final class PromiseSentencesTest {
         due.is("a is tangled", tangled.go(0), Due.NOT_POSSIBLE);
         due.is("b is tangled", tangled.go(1), Due.NOT_POSSIBLE);
         due.is("c is not", tangled.go(2), 2);
+        KiteWords moved = Due.withRow(Due.fliers(12));
+        moved.pay(10, 9);
+        moved.wind(1, 5);
+        moved.go(0);
+        due.is("a place to the west, with its mate", moved.flier(9, 4), 10);
+        due.is("who is there", moved.flier(10, 4), 9);
+        due.is("with their minutes", moved.flier(9, 5) + moved.flier(10, 5), 6);
     }
 
     private static void pay() {
@@ -361,6 +373,11 @@ public final class PromiseSentencesTest {
         due.is("one is left", kites.dropTurn(40), 1);
         due.is("none is left", kites.dropTurn(30), 0);
         due.is("it has none", kites.dropTurn(30), Due.UNKNOWN);
+        for (int minute = 31; minute <= 38; minute++) {
+            kites.planTurn(minute, 2, 2);
+        }
+        due.is("seven of eight", kites.dropTurn(31), 7);
+        due.is("the first now", kites.turnOf(0, 0), 32);
     }
 
     private static void crowd() {
@@ -424,7 +441,8 @@ public final class PromiseSentencesTest {
         due.is("the empty text", Due.want(kites, ""), -1000100);
         due.is("too long", Due.want(kites, "abcdefghijklm"), -1000112);
         due.is("the word is there still", Due.want(kites, "abcdefghijkl"), Due.NONE);
-        due.is("another of as many letters", Due.want(kites, "abcdefghijkk"), 12);
+        due.is("another last letter", Due.want(kites, "abcdefghijkk"), 12);
+        due.is("another first letter", Due.want(kites, "bbcdefghijkk"), 12);
     }
 
     private static void type() {
@@ -606,6 +624,11 @@ public final class PromiseSentencesTest {
         kites.wind(1, 2);
         // a at 12, c at 38: behind the trade c at 28, a at 22
         due.is("not safe", kites.ifTraded(1, 1), 0);
+        KiteWords equal = Due.withRow("a1,a2,b1");
+        Due.want(equal, "baa");
+        due.is("equal letters are not good", equal.ifTraded(0, 0), 0);
+        due.is("nothing is less behind them", equal.ifTraded(0, 2), 2);
+        due.is("other letters are", equal.ifTraded(1, 2), 1);
         document.says("Returns the number; UNKNOWN; BAD_VALUE; NONE for 0 and 2 if there is no word, or the fewest trades "
                 + "are NONE.");
         due.is("bad", kites.ifTraded(0, -1), Due.BAD_VALUE);
@@ -638,8 +661,11 @@ public final class PromiseSentencesTest {
         due.is("none is good", kites.nextTrade(), Due.NONE);
         Due.want(kites, "deacb");
         due.is("none that is good is safe", kites.nextTrade(), Due.NONE);
-        Due.want(kites, "xyzxy");
-        due.is("other letters", kites.nextTrade(), Due.NONE);
+        KiteWords calm = Due.withRow("b1,a1");
+        Due.want(calm, "ab");
+        due.is("good and safe", calm.nextTrade(), 0);
+        Due.want(calm, "xy");
+        due.is("other letters", calm.nextTrade(), Due.NONE);
         due.is("no word", Due.withRow("b1,a1").nextTrade(), Due.NONE);
     }
 
@@ -672,6 +698,12 @@ public final class PromiseSentencesTest {
                 + "not by then, or there is no word.");
         due.is("it is spelled", kites.spelledIn(), 0);
         due.is("no word", Due.withRow("a1").spelledIn(), Due.NONE);
+        KiteWords twelve = Due.withRow(Due.fliers(12));
+        Due.want(twelve, "abcdefghijlk");
+        due.is("one trade", twelve.spelledIn(), 1);
+        twelve.wind(1, 5);
+        twelve.pay(11, 9);
+        due.is("not safe for ever", twelve.spelledIn(), Due.NONE);
         for (int turn = 199; turn <= 200; turn++) {
             KiteWords waits = Due.withRow("a1,b9");
             Due.want(waits, "ba");
@@ -717,6 +749,8 @@ public final class PromiseSentencesTest {
             kites.wind(1, turn % 2 == 0 ? 5 : 0);
             kites.pass(1);
         }
+        due.is("the eighth", kites.tangle(7, 0), 0);
+        due.is("there is no more", kites.tangle(8, 0), Due.NONE);
         kites.wind(1, 5);
         kites.pass(1);
         document.says("back: 0 for the latest one, 1 for the one before, and so on");
@@ -725,8 +759,10 @@ public final class PromiseSentencesTest {
                 + "trade (1, otherwise 0)");
         // a at 45 and b at 15 trade: b at 5, a at 55
         due.is("a tangle by a trade", kites.trade(0), 1);
-        int[][] tangles = {{9, 2, 1, 1}, {8, 1, 2, 0}, {7, 1, 2, 0}, {6, 1, 2, 0}, {5, 1, 2, 0}, {4, 1, 2, 0}, {3, 1, 2, 0},
-            {2, 1, 2, 0}};
+        // b from 5 to -5, a from 55 to -35
+        due.is("and one by the wind", kites.wind(3, 5), 1);
+        int[][] tangles = {{10, 2, 1, 0}, {9, 2, 1, 1}, {8, 1, 2, 0}, {7, 1, 2, 0}, {6, 1, 2, 0}, {5, 1, 2, 0}, {4, 1, 2, 0},
+            {3, 1, 2, 0}};
         document.says("Returns the number; BAD_VALUE (back is negative, or what); NONE if there is none.");
         for (int back = 0; back < 8; back++) {
             for (int what = 0; what < 4; what++) {
@@ -735,10 +771,13 @@ public final class PromiseSentencesTest {
             due.is("tangle(" + back + ", -1)", kites.tangle(back, -1), Due.BAD_VALUE);
             due.is("tangle(" + back + ", 4)", kites.tangle(back, 4), Due.BAD_VALUE);
         }
-        due.is("ten have been", kites.count(10), 10);
+        due.is("eleven have been", kites.count(10), 11);
         due.is("tangle(8, 0)", kites.tangle(8, 0), Due.NONE);
         due.is("tangle(-1, 0)", kites.tangle(-1, 0), Due.BAD_VALUE);
-        due.is("none", new KiteWords().tangle(0, 0), Due.NONE);
+        KiteWords few = Due.withRow("a9,b1");
+        due.is("none", few.tangle(0, 0), Due.NONE);
+        few.wind(1, 5);
+        due.is("none but one", few.tangle(1, 0), Due.NONE);
     }
 
     private static void count() {

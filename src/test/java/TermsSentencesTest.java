@@ -80,6 +80,7 @@ public final class TermsSentencesTest {
                 + "their places are numbered from 0 in the west.");
         KiteWords kites = Due.withRow(TWELVE);
         due.is("twelve", kites.count(0), 12);
+        due.is("twelve kites", kites.count(5), 12);
         due.is("one more", kites.come('m', 1), Due.FULL);
         due.is("place 0", kites.flier(0, 1), 'a');
         due.is("place 11", kites.flier(11, 1), 'l');
@@ -195,11 +196,12 @@ public final class TermsSentencesTest {
         due.is("c is tangled", kites.trade(1), Due.NOT_POSSIBLE);
         due.is("both are", kites.trade(2), Due.NOT_POSSIBLE);
         due.is("d is", kites.trade(3), Due.NOT_POSSIBLE);
-        due.is("neither is", kites.trade(4), 0);
+        due.is("neither of e and f is", kites.trade(4), 0);
         due.holds("they have traded", Due.row(kites).equals("abcdfe"));
         due.is("a minute", kites.count(1), 1);
         due.is("with its turn", kites.count(2) * 10 + kites.count(3), 3);
         due.is("and one less for the others", kites.flier(2, 5), 2);
+        due.is("neither of a and b is", kites.trade(0), 0);
     }
 
     private static void whenATradeTangles() {
@@ -346,7 +348,7 @@ public final class TermsSentencesTest {
         document.says("It is spelled if the kites that can be read, in their order, are just its letters, and all kites "
                 + "can be read.");
         KiteWords kites = Due.withRow("a9,b1,c1");
-        String[] words = {"abc", "cba", "ab", "abcc", "a"};
+        String[] words = {"abc", "cba", "xbc", "axc", "abx", "ab", "bc", "abcc", "a"};
         for (String word : words) {
             Due.want(kites, word);
             due.is(word + " from the south", kites.count(8), word.equals("abc") ? 1 : 0);
@@ -387,6 +389,14 @@ public final class TermsSentencesTest {
             Due.want(kites, words[i]);
             due.is("abcd to " + words[i], kites.count(7), fewest[i]);
         }
+        KiteWords few = Due.withRow("a1");
+        Due.want(few, "acb");
+        Due.want(few, "a");
+        due.is("a to a", few.count(7), 0);
+        few.come('b', 1);
+        due.is("ab to a", few.count(7), Due.NONE);
+        Due.want(few, "ac");
+        due.is("ab to ac", few.count(7), Due.NONE);
     }
 
     private static void howTheyAreCounted() {
@@ -545,8 +555,13 @@ public final class TermsSentencesTest {
         due.holds("nothing is another", Picture.of(kites).equals(before));
         kites.pass(30);
         kites.crowd(true);
-        kites.wind(3, 4);
         kites.setTangle(1);
+        kites.pay(3, 9);
+        kites.wind(3, 4);
+        kites.pass(1);
+        // b at -36, a at 6, c at 16, d at -6
+        due.is("c with d, by a trade", kites.trade(2), 1);
+        kites.come('x', 1);
         due.holds("all is another", !Picture.of(kites).equals(before));
         kites.type('!');
         due.is("restore", kites.restore(), 1);
@@ -555,7 +570,7 @@ public final class TermsSentencesTest {
         due.holds("all is as it was", Picture.of(kites).equals(before));
         due.is("how long a tangle stays is", kites.setTangle(5), Due.NONE);
         due.is("the history stays", kites.undo(), 3);
-        due.is("with its states", kites.count(3), 4);
+        due.is("with its states", kites.count(0), 5);
         due.is("the snapshot stays", kites.restore(), 1);
         kites.come('e', 1);
         due.is("the number that comes next is a part of it", kites.flier(4, 0), 4);
